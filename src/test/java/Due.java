@@ -17,6 +17,23 @@ final class Due {
         }
     }
 
+    void same(String what, String got, String want) {
+        asked++;
+        if (!got.equals(want)) {
+            wrong++;
+            System.out.println(what + " answered " + got + ", due is " + want);
+        }
+    }
+
+    /** What survey() answers to a text, and what fault() tells then. */
+    MapDuty reads(String text, int answer, int letter) {
+        MapDuty x = new MapDuty();
+        feed(x, text);
+        is("survey() of '" + text + "'", x.survey(), answer);
+        is("fault() of '" + text + "'", x.fault(), letter);
+        return x;
+    }
+
     static void feed(MapDuty x, String text) {
         for (int i = 0; i < text.length(); i++) {
             x.feed(text.charAt(i));

@@ -53,25 +53,18 @@ public final class SurveyTest {
         DUE.is("feed again", x.feed(32), 1);
     }
 
-    private static void reads(String text, int answer, int fault) {
-        MapDuty x = new MapDuty();
-        Due.feed(x, text);
-        DUE.is("survey of '" + text + "'", x.survey(), answer);
-        DUE.is("fault of '" + text + "'", x.fault(), fault);
-    }
-
     private static void surveyAnswers() {
-        reads("", 0, -1);
-        reads("   ", 0, -1);
-        reads("n2;", 0, -1);
-        reads("n8;", 0, -1);
-        reads("n002;", 0, -1);
-        reads("  n 2 ; l 0 1 1 50 ; m 4 1 0 ; i 12 ; ", 1, -1);
-        reads("n3;l0 1 0 0;l1 2 1 050;", 2, -1);
-        reads("n2;i1;l0 1 1 1;i12;m0 1 0;i3;m0 0 0;i4;", 1, -1);
-        reads(Due.FIVE, 6, -1);
-        reads(twelveLines() + "m0 63 63;m1 0 32;", 12, -1);
-        reads(sevenLines() + "m0 63 1;", 7, -1);
+        DUE.reads("", 0, -1);
+        DUE.reads("   ", 0, -1);
+        DUE.reads("n2;", 0, -1);
+        DUE.reads("n8;", 0, -1);
+        DUE.reads("n002;", 0, -1);
+        DUE.reads("  n 2 ; l 0 1 1 50 ; m 4 1 0 ; i 12 ; ", 1, -1);
+        DUE.reads("n3;l0 1 0 0;l1 2 1 050;", 2, -1);
+        DUE.reads("n2;i1;l0 1 1 1;i12;m0 1 0;i3;m0 0 0;i4;", 1, -1);
+        DUE.reads(Due.FIVE, 6, -1);
+        DUE.reads(twelveLines() + "m0 63 63;m1 0 32;", 12, -1);
+        DUE.reads(sevenLines() + "m0 63 1;", 7, -1);
     }
 
     private static String twelveLines() {
@@ -84,94 +77,94 @@ public final class SurveyTest {
     }
 
     private static void faultsOfWords() {
-        reads("l0 1 1 1;", -11, 0);
-        reads("m0 0 0;", -11, 0);
-        reads("i1;", -11, 0);
-        reads("x", -11, 0);
-        reads("N2;", -11, 0);
-        reads("5", -11, 0);
-        reads(";", -11, 0);
-        reads("   x", -11, 3);
-        reads("\tn2;", -11, 0);
-        reads("n2;\u00ff", -11, 3);
-        reads("n2;\0", -11, 3);
-        reads("n2;;", -11, 3);
-        reads("n2; 3", -11, 4);
-        reads("n2;n", -13, 3);
-        reads("n2; n3;", -13, 4);
-        reads(twelveLines() + "l", -13, 111);
-        reads(twelveLines() + " l7 6 1 1;", -13, 112);
-        reads(twelveLines() + "m0 0 0;l", -11, 118);
-        reads("n2;m0 0 0;l0 1 1 1;", -11, 10);
-        reads("n2;m0 0 0;m0 0 0;m0 0 0;m0 0 0;m0 0 0;m", -13, 38);
-        reads("n2;i1;i1;i1;i1;i1;", -13, 15);
+        DUE.reads("l0 1 1 1;", -11, 0);
+        DUE.reads("m0 0 0;", -11, 0);
+        DUE.reads("i1;", -11, 0);
+        DUE.reads("x", -11, 0);
+        DUE.reads("N2;", -11, 0);
+        DUE.reads("5", -11, 0);
+        DUE.reads(";", -11, 0);
+        DUE.reads("   x", -11, 3);
+        DUE.reads("\tn2;", -11, 0);
+        DUE.reads("n2;\u00ff", -11, 3);
+        DUE.reads("n2;\0", -11, 3);
+        DUE.reads("n2;;", -11, 3);
+        DUE.reads("n2; 3", -11, 4);
+        DUE.reads("n2;n", -13, 3);
+        DUE.reads("n2; n3;", -13, 4);
+        DUE.reads(twelveLines() + "l", -13, 111);
+        DUE.reads(twelveLines() + " l7 6 1 1;", -13, 112);
+        DUE.reads(twelveLines() + "m0 0 0;l", -11, 118);
+        DUE.reads("n2;m0 0 0;l0 1 1 1;", -11, 10);
+        DUE.reads("n2;m0 0 0;m0 0 0;m0 0 0;m0 0 0;m0 0 0;m", -13, 38);
+        DUE.reads("n2;i1;i1;i1;i1;i1;", -13, 15);
     }
 
     private static void faultsOfNumbers() {
-        reads("n", -11, 1);
-        reads("n  ", -11, 3);
-        reads("n5", -11, 2);
-        reads("n5 ", -11, 3);
-        reads("n;", -11, 1);
-        reads("n-2;", -11, 1);
-        reads("nn", -11, 1);
-        reads("n1;", -12, 1);
-        reads("n0;", -12, 1);
-        reads("n9;", -12, 1);
-        reads("n9", -12, 1);
-        reads("n0002;", -12, 1);
-        reads("n  0002", -12, 3);
-        reads("n99999999999999999999;", -12, 1);
-        reads("n4294967298;", -12, 1);
-        reads("n1 2;", -12, 1);
-        reads("n2 2;", -11, 3);
-        reads("n2,", -11, 2);
-        reads("n2l", -11, 2);
+        DUE.reads("n", -11, 1);
+        DUE.reads("n  ", -11, 3);
+        DUE.reads("n5", -11, 2);
+        DUE.reads("n5 ", -11, 3);
+        DUE.reads("n;", -11, 1);
+        DUE.reads("n-2;", -11, 1);
+        DUE.reads("nn", -11, 1);
+        DUE.reads("n1;", -12, 1);
+        DUE.reads("n0;", -12, 1);
+        DUE.reads("n9;", -12, 1);
+        DUE.reads("n9", -12, 1);
+        DUE.reads("n0002;", -12, 1);
+        DUE.reads("n  0002", -12, 3);
+        DUE.reads("n99999999999999999999;", -12, 1);
+        DUE.reads("n4294967298;", -12, 1);
+        DUE.reads("n1 2;", -12, 1);
+        DUE.reads("n2 2;", -11, 3);
+        DUE.reads("n2,", -11, 2);
+        DUE.reads("n2l", -11, 2);
     }
 
     private static void faultsOfLines() {
-        reads("n3;l0 3 1 1;", -12, 6);
-        reads("n3;l3 0 1 1;", -12, 4);
-        reads("n3;l3 3 1 1;", -12, 4);
-        reads("n3;l0 0 1 1;", -14, 6);
-        reads("n3;l0 0", -14, 6);
-        reads("n3;l0 0000 1 1;", -12, 6);
-        reads("n3;l01 1 1 1;", -14, 7);
-        reads("n3;l0 1 1 1;l1 0 0 0;", -14, 15);
-        reads("n3;l0 1 1 1;l0 1 0 0;", -14, 15);
-        reads("n3;l0 1 1 1;l0   1 9 9;", -14, 17);
-        reads("n3;l0 1 1 1;l1 2 0 0;l2 1 0 0;", -14, 24);
-        reads("n3;l0 1 2 1;", -12, 8);
-        reads("n3;l0 1 1 51;", -12, 10);
-        reads("n3;l0 1 1 1000;", -12, 10);
-        reads("n3;l0 1 1;", -11, 9);
-        reads("n3;l0 1 1 1 1;", -11, 12);
-        reads("n3;l0 1 1 1", -11, 11);
-        reads("n3;l", -11, 4);
-        reads("n3;l0 ", -11, 6);
-        reads("n3;l0 1 ", -11, 8);
-        reads("n3;l0 x", -11, 6);
+        DUE.reads("n3;l0 3 1 1;", -12, 6);
+        DUE.reads("n3;l3 0 1 1;", -12, 4);
+        DUE.reads("n3;l3 3 1 1;", -12, 4);
+        DUE.reads("n3;l0 0 1 1;", -14, 6);
+        DUE.reads("n3;l0 0", -14, 6);
+        DUE.reads("n3;l0 0000 1 1;", -12, 6);
+        DUE.reads("n3;l01 1 1 1;", -14, 7);
+        DUE.reads("n3;l0 1 1 1;l1 0 0 0;", -14, 15);
+        DUE.reads("n3;l0 1 1 1;l0 1 0 0;", -14, 15);
+        DUE.reads("n3;l0 1 1 1;l0   1 9 9;", -14, 17);
+        DUE.reads("n3;l0 1 1 1;l1 2 0 0;l2 1 0 0;", -14, 24);
+        DUE.reads("n3;l0 1 2 1;", -12, 8);
+        DUE.reads("n3;l0 1 1 51;", -12, 10);
+        DUE.reads("n3;l0 1 1 1000;", -12, 10);
+        DUE.reads("n3;l0 1 1;", -11, 9);
+        DUE.reads("n3;l0 1 1 1 1;", -11, 12);
+        DUE.reads("n3;l0 1 1 1", -11, 11);
+        DUE.reads("n3;l", -11, 4);
+        DUE.reads("n3;l0 ", -11, 6);
+        DUE.reads("n3;l0 1 ", -11, 8);
+        DUE.reads("n3;l0 x", -11, 6);
     }
 
     private static void faultsOfMapsAndInspectors() {
-        reads("n2;l0 1 1 1;m5 0 0;", -12, 13);
-        reads("n2;l0 1 1 1;m0 2 0;", -12, 15);
-        reads("n2;l0 1 1 1;m0 3 0;", -12, 15);
-        reads("n2;l0 1 1 1;m0 64 0;", -12, 15);
-        reads("n2;l0 1 1 1;m0 1 1;", -12, 17);
-        reads("n2;l0 1 1 1;m0 1 64;", -12, 17);
-        reads("n2;l0 1 1 1;m0 1;", -11, 16);
-        reads("n2;l0 1 1 1;m0 1 0", -11, 18);
-        reads("n2;m0 1 0;", -12, 6);
-        reads(sevenLines() + "m0 63 2;", -12, 72);
-        reads(sevenLines() + "m0 63 3;", -12, 72);
-        reads(twelveLines() + "m0 64 0;", -12, 114);
-        reads(twelveLines() + "m0 63 64;", -12, 117);
-        reads("n2;i0;", -12, 4);
-        reads("n2;i13;", -12, 4);
-        reads("n2;i;", -11, 4);
-        reads("n2;i1 1;", -11, 6);
-        reads("n2;i1", -11, 5);
+        DUE.reads("n2;l0 1 1 1;m5 0 0;", -12, 13);
+        DUE.reads("n2;l0 1 1 1;m0 2 0;", -12, 15);
+        DUE.reads("n2;l0 1 1 1;m0 3 0;", -12, 15);
+        DUE.reads("n2;l0 1 1 1;m0 64 0;", -12, 15);
+        DUE.reads("n2;l0 1 1 1;m0 1 1;", -12, 17);
+        DUE.reads("n2;l0 1 1 1;m0 1 64;", -12, 17);
+        DUE.reads("n2;l0 1 1 1;m0 1;", -11, 16);
+        DUE.reads("n2;l0 1 1 1;m0 1 0", -11, 18);
+        DUE.reads("n2;m0 1 0;", -12, 6);
+        DUE.reads(sevenLines() + "m0 63 2;", -12, 72);
+        DUE.reads(sevenLines() + "m0 63 3;", -12, 72);
+        DUE.reads(twelveLines() + "m0 64 0;", -12, 114);
+        DUE.reads(twelveLines() + "m0 63 64;", -12, 117);
+        DUE.reads("n2;i0;", -12, 4);
+        DUE.reads("n2;i13;", -12, 4);
+        DUE.reads("n2;i;", -11, 4);
+        DUE.reads("n2;i1 1;", -11, 6);
+        DUE.reads("n2;i1", -11, 5);
     }
 
     private static MapDuty busy() {
