@@ -371,24 +371,37 @@ public final class EdgeLandTest {
         DUE.is("then those of 0", y.inspect(2, 0), 20);
     }
 
-    /** Twelve lines, dearer from line to line or cheaper: a chain of c finds the one that is not true if it is among the c dearest. */
+    private static final int[][] WORTHS = {
+        {0, 1, 2, 3, 4, 5, 6, 46, 47, 48, 49, 50},
+        {50, 49, 48, 47, 46, 6, 5, 4, 3, 2, 1, 0},
+        {25, 50, 10, 40, 20, 30, 45, 5, 35, 15, 0, 48},
+        {7, 7, 50, 7, 0, 50, 7, 0, 50, 50, 0, 7},
+    };
+
+    /** One of twelve lines is not true: a chain finds it if fewer lines than it is long come ahead of that one. */
     private static void ofMostDutyFirst() {
-        for (int untrue = 0; untrue < 12; untrue++) {
-            String[] clauses = TWELVE.split(";");
-            StringBuilder dearer = new StringBuilder();
-            StringBuilder cheaper = new StringBuilder();
-            for (int n = 0; n < clauses.length; n++) {
-                String line = n == untrue + 1 ? clauses[n].replace(" 1 50", " 0 50") : clauses[n];
-                dearer.append(line.replace(" 50", " " + (n + 20))).append(';');
-                cheaper.append(line.replace(" 50", " " + (40 - n))).append(';');
-            }
-            for (int chain = 1; chain <= 12; chain++) {
-                MapDuty x = Due.surveyed(dearer + "m0 63 63;i" + chain + ";");
-                DUE.is("dearer: " + untrue + " by " + chain, x.inspect(0, 0), 12 - untrue <= chain ? 10 : 0);
-                x = Due.surveyed(cheaper + "m0 63 63;i" + chain + ";");
-                DUE.is("cheaper: " + untrue + " by " + chain, x.inspect(0, 0), untrue < chain ? 10 : 0);
+        for (int[] worth : WORTHS) {
+            for (int untrue = 0; untrue < 12; untrue++) {
+                String text = twelve(worth, untrue);
+                int ahead = 0;
+                for (int l = 0; l < 12; l++) {
+                    ahead += worth[l] > worth[untrue] || worth[l] == worth[untrue] && l < untrue ? 1 : 0;
+                }
+                for (int chain = 1; chain <= 12; chain++) {
+                    MapDuty x = Due.surveyed(text + "m0 63 63;i" + chain + ";");
+                    DUE.is("a chain of " + chain + " of '" + text + "'", x.inspect(0, 0), ahead < chain ? 10 : 0);
+                }
             }
         }
+    }
+
+    private static String twelve(int[] worth, int untrue) {
+        String[] clauses = TWELVE.split(";");
+        StringBuilder text = new StringBuilder(clauses[0] + ";");
+        for (int l = 0; l < 12; l++) {
+            text.append(clauses[l + 1].replace(" 1 50", (l == untrue ? " 0 " : " 1 ") + worth[l])).append(';');
+        }
+        return text.toString();
     }
 
     private static void aWayGoesEitherWay() {
