@@ -32,6 +32,7 @@ public final class EdgeSurveyTest {
         twoNumbersNeedABlank();
         onlySignOfAnEnd();
         theEndIsAtTheTextsLength();
+        theEndIsNotInTheOldText();
         theFirstLetterThatHasAFault();
         ofTheseTheLeast();
         faultOfTheLatestSurvey();
@@ -469,6 +470,18 @@ public final class EdgeSurveyTest {
             }
         }
         DUE.is("clauses and the empty text", clauses, 15);
+    }
+
+    /** The letters of a longer text that was read before are no part of a shorter one. */
+    private static void theEndIsNotInTheOldText() {
+        for (int length = 1; length < Due.FIVE.length(); length++) {
+            String text = Due.FIVE.substring(0, length);
+            MapDuty x = Due.surveyed(Due.FIVE);
+            Due.feed(x, text);
+            int answer = x.survey();
+            DUE.is("survey() of '" + text + "' behind all of it", answer < 0 ? answer : 0, text.endsWith(";") ? 0 : -11);
+            DUE.is("fault() of '" + text + "' behind all of it", x.fault(), text.endsWith(";") ? Due.NONE : length);
+        }
     }
 
     /** "FAULTS, at the first letter that has one". */
