@@ -80,8 +80,9 @@ public final class LanguageTest {
                 open.add(m.getName());
             }
         }
-        for (Method m : MapDuty.class.getDeclaredMethods()) {
-            must(!Modifier.isPrivate(m.getModifiers()) || !open.contains(m.getName()), "a private name is public: " + m);
+        noPublicName(MapDuty.class, open);
+        for (Class<?> inside : MapDuty.class.getDeclaredClasses()) {
+            noPublicName(inside, open);
         }
         Set<String> constants = new TreeSet<>();
         for (Field f : MapDuty.class.getDeclaredFields()) {
@@ -91,6 +92,12 @@ public final class LanguageTest {
             }
         }
         must(constants.equals(Set.of("NONE", "UNKNOWN", "OUTSIDE", "NOT", "FULL")), "the constants: " + constants);
+    }
+
+    private static void noPublicName(Class<?> one, Set<String> open) {
+        for (Method m : one.getDeclaredMethods()) {
+            must(!Modifier.isPrivate(m.getModifiers()) || !open.contains(m.getName()), "a private name is public: " + m);
+        }
     }
 
     /** Each method line of the document's face stands in the class with the same types, and there is no other. */

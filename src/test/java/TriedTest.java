@@ -170,7 +170,7 @@ public final class TriedTest {
     }
 
     private static void lineToWalk() {
-        // maps 000 and 001, one error: 000, 001; line 0 alone parts them
+        // maps of nothing and of line 2, one error: just these two sets, and line 2 alone parts them
         MapDuty x = Due.surveyed("n4;l0 1 1 1;l1 2 1 1;l2 3 1 1;m0 0 0;m0 4 0;");
         fits(x, 1, 2, 0, 2);
         // two errors: all that differ in lines 0 and 1 by one at most: line 2 parts them in halves
